@@ -34,14 +34,12 @@ public final class StraightTax {
     private final Walk now = new Walk();
     private final Walk[] images = new Walk[IMAGES];
     private final boolean[] kept = new boolean[IMAGES];
-    private final int[] errandFrom = new int[MOST_ERRANDS];
-    private final int[] errandTo = new int[MOST_ERRANDS];
+    private final Errands errands = new Errands();
     private final Walker[] kinds = new Walker[KINDS];
     private final Ways ways;
     private Town here = new Town();
     /** A text is read into this one, so that a fault leaves the town that stands as it was. */
     private Town spare = new Town();
-    private int errands = 0;
     private long marks = 0;
 
     public StraightTax() {
@@ -84,7 +82,7 @@ public final class StraightTax {
         text.length = 0;
         now.leave();
         now.night = false;
-        errands = 0;
+        errands.many = 0;
         for (int i = 0; i < IMAGES; i++) {
             kept[i] = false;
         }
@@ -261,18 +259,12 @@ public final class StraightTax {
         if (!areEnds(a, b)) {
             return BAD;
         }
-        if (errands >= MOST_ERRANDS) {
-            return FULL;
-        }
-        errandFrom[errands] = a;
-        errandTo[errands] = b;
-        errands++;
-        return errands;
+        return errands.add(a, b) ? errands.many : FULL;
     }
 
     public int home() {
-        int had = errands;
-        errands = 0;
+        int had = errands.many;
+        errands.many = 0;
         return had;
     }
 
@@ -281,11 +273,14 @@ public final class StraightTax {
             return BAD;
         }
         ways.look(here, now.night);
+        if (!errands.haveWays(ways)) {
+            return NONE;
+        }
         int where = NONE;
         int least = FAR;
         for (int c = 0; c < here.squares(); c++) {
             if (here.thingOn(c) == NOTHING) {
-                int all = errandsWithElbow(c);
+                int all = errands.withElbow(c, ways);
                 if (all < least) {
                     least = all;
                     where = c;
@@ -338,7 +333,7 @@ public final class StraightTax {
             case 1: return here.high;
             case 2: return here.countOf(HOUSE);
             case 3: return here.countOf(ELBOW);
-            case 4: return errands;
+            case 4: return errands.many;
             case 5: return text.length;
             default: return BAD;
         }
@@ -393,18 +388,6 @@ public final class StraightTax {
         return true;
     }
 
-    /** What all errands cost if an elbow stood on a square that has nothing; FAR: one has no way. */
-    private int errandsWithElbow(int c) {
-        here.put(c, ELBOW);
-        int all = 0;
-        for (int e = 0; e < errands && all < FAR; e++) {
-            int pence = ways.leastPence(errandFrom[e], errandTo[e]);
-            all = pence < FAR ? all + pence : FAR;
-        }
-        here.put(c, NOTHING);
-        return all;
-    }
-
     /** The squares with what is on them, and the tax. */
     private static final class Town {
         private static final int[] RIGHT = {0, 1, 0, -1};
@@ -443,9 +426,8 @@ public final class StraightTax {
                 for (int x = 0; x < wide; x++) {
                     for (int d = 0; d < DIRECTIONS; d++) {
                         int to = squareAt(x + RIGHT[d], y + DOWN[d]);
-                        int port = (y * wide + x) * DIRECTIONS + d;
-                        if (isOpen(to) && port < PORTS) {
-                            next[port] = to;
+                        if (isOpen(to)) {
+                            next[squareAt(x, y) * DIRECTIONS + d] = to;
                         }
                     }
                 }
@@ -457,7 +439,7 @@ public final class StraightTax {
         }
 
         int squares() {
-            return Math.min(wide * high, MOST_SQUARES);
+            return wide * high;
         }
 
         boolean has(int c) {
@@ -465,27 +447,27 @@ public final class StraightTax {
         }
 
         int thingOn(int c) {
-            return has(c) ? things[c] : NOTHING;
+            return isHeld(c) ? things[c] : NOTHING;
         }
 
         void put(int c, int thing) {
-            if (has(c)) {
+            if (isHeld(c)) {
                 things[c] = thing;
             }
         }
 
         boolean isOpen(int c) {
-            return has(c) && things[c] != HOUSE;
+            return has(c) && thingOn(c) != HOUSE;
         }
 
         boolean isElbow(int c) {
-            return has(c) && things[c] == ELBOW;
+            return isHeld(c) && things[c] == ELBOW;
         }
 
         int countOf(int thing) {
             int found = 0;
             for (int c = 0; c < squares(); c++) {
-                if (things[c] == thing) {
+                if (thingOn(c) == thing) {
                     found++;
                 }
             }
@@ -493,7 +475,12 @@ public final class StraightTax {
         }
 
         int ahead(int c, int d) {
-            return has(c) && isDirection(d) ? next[c * DIRECTIONS + d] : NOWHERE;
+            return isHeld(c) && isDirection(d) ? next[c * DIRECTIONS + d] : NOWHERE;
+        }
+
+        /** Whether the tables have the square; those beyond a small town are there, and empty. */
+        private static boolean isHeld(int c) {
+            return c >= 0 && c < MOST_SQUARES;
         }
 
         /** All squares to which a step in one direction leads from any of some. */
@@ -822,10 +809,13 @@ public final class StraightTax {
         private Town town;
         private boolean night = false;
         private int goal = 0;
-        /** What the first steps of a run cost together. */
+        /** What the first steps of a run cost together, in pence and as a burden. */
         private final int[] sums = new int[LONGEST_RUN + 1];
+        private final int[] weights = new int[LONGEST_RUN + 1];
         /** The least burden to the goal by a way that begins a run from a square in a direction. */
         private final int[] outward = new int[PORTS];
+        /** The least burden to the goal from a square to which one came in a direction, by a new run. */
+        private final int[] onward = new int[PORTS];
         /** The least pence by just so many steps to a square, where the last is in a direction. */
         private final int[] inward = new int[LAYERS * PORTS];
         /** The squares from which the goal is just so many steps away. */
@@ -842,6 +832,7 @@ public final class StraightTax {
             night = isNight;
             for (int r = 1; r <= LONGEST_RUN; r++) {
                 sums[r] = sums[r - 1] + town.price(r, night);
+                weights[r] = sums[r] * PENNY + r;
             }
         }
 
@@ -883,22 +874,37 @@ public final class StraightTax {
         void aim(int b) {
             goal = b;
             Arrays.fill(outward, FAR);
+            Arrays.fill(onward, FAR);
+            for (int d = 0; d < DIRECTIONS; d++) {
+                onward[goal * DIRECTIONS + d] = 0;
+            }
             boolean less = true;
             for (int sweep = 0; less && sweep <= PORTS; sweep++) {
-                less = makesLess();
-            }
-        }
-
-        private boolean makesLess() {
-            boolean less = false;
-            for (int c = 0; c < town.squares(); c++) {
-                for (int d = 0; d < DIRECTIONS && town.isOpen(c); d++) {
-                    int burden = straightOn(c, d, 0);
-                    if (burden < outward[c * DIRECTIONS + d]) {
-                        outward[c * DIRECTIONS + d] = burden;
+                less = false;
+                for (int i = 0; i < town.squares(); i++) {
+                    // To and fro, since what is found spreads along a sweep.
+                    int c = sweep % 2 == 0 ? i : town.squares() - 1 - i;
+                    if (makesLess(c)) {
                         less = true;
                     }
                 }
+            }
+        }
+
+        private boolean makesLess(int c) {
+            if (c == goal || !town.isOpen(c)) {
+                return false;
+            }
+            boolean less = false;
+            for (int d = 0; d < DIRECTIONS; d++) {
+                int burden = straightOn(c, d, 0);
+                if (burden < outward[c * DIRECTIONS + d]) {
+                    outward[c * DIRECTIONS + d] = burden;
+                    less = true;
+                }
+            }
+            for (int last = 0; less && last < DIRECTIONS; last++) {
+                onward[c * DIRECTIONS + last] = turning(c, town.isElbow(c) ? NOWHERE : last);
             }
             return less;
         }
@@ -912,27 +918,19 @@ public final class StraightTax {
                 if (c == NOWHERE) {
                     break;
                 }
-                int rest = c == goal ? 0 : turning(c, d);
-                least = Math.min(least, weight(done, r) + rest);
-                if (c == goal || town.isElbow(c)) {
+                least = Math.min(least, weights[r] - weights[done] + onward[c * DIRECTIONS + d]);
+                if (town.isElbow(c)) {
                     break;
                 }
             }
             return least;
         }
 
-        private int weight(int done, int run) {
-            if (done < 0 || run < done || run > LONGEST_RUN) {
-                return FAR;
-            }
-            return (sums[run] - sums[done]) * PENNY + run - done;
-        }
-
-        /** The least burden from a square by a new run, to which one came in the last direction. */
-        private int turning(int c, int last) {
+        /** The least burden from a square by a new run in another direction than one (NOWHERE: in any). */
+        private int turning(int c, int but) {
             int least = FAR;
             for (int d = 0; d < DIRECTIONS; d++) {
-                if (d != last || town.isElbow(c)) {
+                if (d != but) {
                     least = Math.min(least, outward[c * DIRECTIONS + d]);
                 }
             }
@@ -943,10 +941,14 @@ public final class StraightTax {
             return a == goal ? 0 : turning(a, NOWHERE);
         }
 
-        int leastPence(int a, int b) {
-            aim(b);
+        int penceFrom(int a) {
             int burden = burdenFrom(a);
             return burden < FAR ? penceOf(burden) : FAR;
+        }
+
+        int leastPence(int a, int b) {
+            aim(b);
+            return penceFrom(a);
         }
 
         /** The i-th step of the first of the best ways to the goal, which has more than i. */
@@ -957,11 +959,10 @@ public final class StraightTax {
             int rest = burdenFrom(a);
             for (int s = 0; s <= i && s < PENNY; s++) {
                 int d = firstOfBest(c, last, run, rest);
-                int before = town.runOf(c, last, run, d) - 1;
-                c = town.ahead(c, d);
+                run = town.runOf(c, last, run, d);
+                rest -= town.price(run, night) * PENNY + 1;
                 last = d;
-                run = before + 1;
-                rest -= weight(before, run);
+                c = town.ahead(c, d);
             }
             return last;
         }
@@ -1032,11 +1033,11 @@ public final class StraightTax {
             for (int to = 0; to <= many; to++) {
                 aim(stops[to]);
                 for (int from = 0; from <= many; from++) {
-                    int burden = burdenFrom(stops[from]);
-                    if (burden >= FAR) {
+                    int pence = penceFrom(stops[from]);
+                    if (pence >= FAR) {
                         return NONE;
                     }
-                    legs[from * STOPS + to] = penceOf(burden);
+                    legs[from * STOPS + to] = pence;
                 }
             }
             return tourOn(0, (1 << many) - 1);
@@ -1085,6 +1086,56 @@ public final class StraightTax {
         }
     }
 
+    /** The errands, and what they would cost with an elbow more. */
+    private static final class Errands {
+        int many = 0;
+        private final int[] from = new int[MOST_ERRANDS];
+        private final int[] to = new int[MOST_ERRANDS];
+        private final int[] direct = new int[MOST_ERRANDS];
+        /** What the rest of an errand costs from a square on which a run begins. */
+        private final int[] rests = new int[MOST_ERRANDS * MOST_SQUARES];
+
+        boolean add(int a, int b) {
+            if (many < 0 || many >= MOST_ERRANDS) {
+                return false;
+            }
+            from[many] = a;
+            to[many] = b;
+            many++;
+            return true;
+        }
+
+        /** Finds what each costs as the town is; false: one has no way. */
+        boolean haveWays(Ways ways) {
+            for (int e = 0; e < many && e < MOST_ERRANDS; e++) {
+                ways.aim(to[e]);
+                direct[e] = ways.penceFrom(from[e]);
+                if (direct[e] >= FAR) {
+                    return false;
+                }
+                for (int c = 0; c < MOST_SQUARES; c++) {
+                    rests[e * MOST_SQUARES + c] = ways.penceFrom(c);
+                }
+            }
+            return true;
+        }
+
+        /**
+         * What all cost with an elbow on a square. A way over it is a way to it and one that begins there,
+         * both in the town as it is; so one search for each square is enough, and no elbow needs to be put.
+         */
+        int withElbow(int c, Ways ways) {
+            ways.aim(c);
+            int all = 0;
+            for (int e = 0; e < many && e < MOST_ERRANDS; e++) {
+                int there = ways.penceFrom(from[e]);
+                int over = there < FAR ? there + rests[e * MOST_SQUARES + c] : FAR;
+                all += Math.min(direct[e], over);
+            }
+            return all;
+        }
+    }
+
     private static class Walker {
         int rate(StraightTax tax) {
             tax.marks += 1;
@@ -1109,7 +1160,7 @@ public final class StraightTax {
     private static final class Beggar extends Walker {
         int rate(StraightTax tax) {
             tax.marks += 100000;
-            return super.rate(tax) + tax.errands;
+            return super.rate(tax) + tax.errands.many;
         }
     }
 
