@@ -135,6 +135,16 @@ public final class Promises {
         due("clear again", x.clear(), 0);
         type(x, "double;");
         due("town behind clear", x.town(), 1);
+        type(x, "haste 1;double;haste 22  ;");
+        x.clear();
+        type(x, "haste 1");
+        due("what was cleared is not read", x.town(), -17);
+        x.clear();
+        type(x, "haste 1;doub");
+        due("what was cleared is not read", x.town(), -18);
+        x.clear();
+        type(x, "haste 1;double;haste 2");
+        due("what was cleared is not read", x.town(), -25);
     }
 
     private static void promise4Town() {
@@ -220,6 +230,9 @@ public final class Promises {
         dueTown("doubles;", -10);
         dueTown("doubl", -10);
         dueTown("Double;", -10);
+        dueTown("fown 3 3;", -10);
+        dueTown("housez 1 1;", -10);
+        dueTown("azdouble;", -10);
         dueTown("doublE;", -10);
         dueTown("double;;", -17);
         dueTown("; double;", -10);
@@ -347,6 +360,8 @@ public final class Promises {
         due("STATE ahead of FULL", y.step(3), -2);
         due("paid", y.one(1), 180);
         due("steps", y.one(4), 60);
+        due("run", y.one(2), 1);
+        due("direction", y.one(3), 3);
         due("undo", y.undo(), 3);
         due("one more again", y.step(3), 3);
         due("60 steps again", y.step(1), -3);
@@ -458,6 +473,9 @@ public final class Promises {
         due("e e s s leads onto a house", x.cost(0, 2233), -13);
         due("s s e e leads onto a house", x.cost(0, 3322), -13);
         due("n leads out", x.cost(0, 1), -10);
+        due("n n", x.cost(10, 11), 3);
+        due("n n n", x.cost(15, 111), 6);
+        due("nine n", x.cost(15, 111111111), -13);
         due("9 figures", x.cost(0, 242424242), 9);
         due("the 9th leads out", x.cost(0, 242424244), -18);
         due("10 figures", x.cost(0, 1111111111), -1);
@@ -525,6 +543,11 @@ public final class Promises {
         due("from a house", walled.cheapest(1, 0, -2), -1);
         due("to a house", walled.cheapest(0, 1, -2), -1);
 
+        StraightTax four = told("town 5 4;tax 4 1 0;");
+        due("four straight on", four.cheapest(0, 4, -1), 4);
+        due("four straight on", four.cheapest(4, 0, 3), 3);
+        due("three straight on", four.cheapest(15, 0, -1), 3);
+        due("three straight on", four.cheapest(15, 0, 2), 0);
         StraightTax elbow = told("town 5 1;elbow 2 0;tax 2 9 2;double;");
         due("over an elbow", elbow.cheapest(0, 4, -2), 0);
         due("over an elbow", elbow.cheapest(0, 4, -1), 4);
@@ -595,6 +618,22 @@ public final class Promises {
             due("pence of " + i, winding.line(0, 19, i, 1), windingPence[i]);
         }
 
+        // Across a field one may turn at every step and pay nothing; along its side the quickest way is not free.
+        StraightTax field = told("town 5 4;");
+        due("across", field.line(0, 18, -1, 0), 1);
+        due("across, steps", field.line(0, 18, 0, 0), 6);
+        due("across, pence", field.line(0, 18, 0, 1), 0);
+        int[] up = {3, 5};
+        int[] upPence = {5, 0};
+        due("up", field.line(15, 0, -1, 0), 2);
+        due("down", field.line(4, 19, -1, 0), 2);
+        for (int i = 0; i < 2; i++) {
+            due("up, steps", field.line(15, 0, i, 0), up[i]);
+            due("up, pence", field.line(15, 0, i, 1), upPence[i]);
+            due("down, steps", field.line(4, 19, i, 0), up[i]);
+            due("down, pence", field.line(4, 19, i, 1), upPence[i]);
+        }
+
         StraightTax walled = told("town 3 1;house 1 0;double;tax 0 1 0;");
         due("no way", walled.line(0, 2, -1, 0), 0);
         due("no way", walled.line(0, 2, 0, 0), -5);
@@ -648,6 +687,10 @@ public final class Promises {
         due("by day", walled.round(2, 8), 4);
         walled.dusk(1);
         due("by night", walled.round(2, 8), 8);
+        StraightTax corner = told("town 2 2;house 0 0;");
+        due("a house at 0", corner.round(1, 1), -1);
+        due("a house at 0 and more", corner.round(1, 1 + 4), -1);
+        due("place 0 alone", told("town 2 2;tax 0 1 0;").round(1, 1), 2);
         due("bit 19", told("town 5 4;tax 0 1 0;").round(18, 1 << 19), 2);
         due("bit 12 of a new town", new StraightTax().round(0, 1 << 12), -1);
     }
