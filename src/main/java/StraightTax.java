@@ -572,26 +572,24 @@ public final class StraightTax {
             advance();
             int items = 0;
             while (token != END && items < MOST_BYTES) {
-                if (!isItem(town, items) || !isStop()) {
+                boolean good = false;
+                // Where one of these is false, the token that was read last is the fault.
+                switch (token) {
+                    case TOWN: good = items == 0 && isSize(town); break;
+                    case TO_HOUSE: good = isThing(town, HOUSE); break;
+                    case TO_ELBOW: good = isThing(town, ELBOW); break;
+                    case TAX: good = isTax(town); break;
+                    case DOUBLE: good = isDouble(town); break;
+                    case HASTE: good = isHaste(town); break;
+                    default: break;
+                }
+                if (!good || !isStop()) {
                     return FIRST_FAULT - place;
                 }
                 items++;
                 advance();
             }
             return items;
-        }
-
-        /** Reads an item up to its last number; if it is none, the token that is read now is the fault. */
-        private boolean isItem(Town town, int before) {
-            switch (token) {
-                case TOWN: return before == 0 && isSize(town);
-                case TO_HOUSE: return isThing(town, HOUSE);
-                case TO_ELBOW: return isThing(town, ELBOW);
-                case TAX: return isTax(town);
-                case DOUBLE: return isDouble(town);
-                case HASTE: return isHaste(town);
-                default: return false;
-            }
         }
 
         private boolean isSize(Town town) {
