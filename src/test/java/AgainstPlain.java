@@ -11,7 +11,8 @@ import java.util.Random;
  */
 public final class AgainstPlain {
     private static final int RUNS = 700;
-    private static final int CALLS = 500;
+    /** As many as an object is used for. */
+    private static final int CALLS = 512;
     private static int wrong = 0;
 
     public static void main(String[] args) {
@@ -74,7 +75,8 @@ public final class AgainstPlain {
     }
 
     private int place() {
-        return near(0, plain.wide * plain.high - 1);
+        int squares = plain.wide * plain.high;
+        return draw.nextInt(40) == 0 ? squares : near(0, squares - 1);
     }
 
     // ---- texts
@@ -83,6 +85,11 @@ public final class AgainstPlain {
         String told = drawText();
         if (draw.nextInt(3) == 0) {
             told = spoil(told);
+        }
+        // No more calls than are left: each byte may be a call, and three come behind them.
+        if (told.length() + 4 > left) {
+            look();
+            return;
         }
         type(told);
         due("count(5)", x.count(5), plain.text.length());
