@@ -202,6 +202,11 @@ public final class BoundsOfCalls {
             'town 2 1;haste 1;' = 2 / cost(0, 0) = 0 / cost(0, 2) = 1 / cost(0, 24242424) = 8 / cost(0, 242424242) = 9
             cost(0, 1111111111) = BAD / cost(0, 1242424242) = BAD / cost(0, 2112112112) = BAD
             """);
+        Rows.test(12, "each row of two figures from the middle of a town", """
+            'town 5 4;tax 0 1 1;haste 1;' = 3 / cost(12, 11) = 5 / cost(12, 12) = 4 / cost(12, 13) = 4 / cost(12, 14) = 4
+            cost(7, 21) = 4 / cost(7, 22) = 5 / cost(7, 23) = 4 / cost(7, 24) = 4 / cost(7, 31) = 4 / cost(7, 32) = 4 / cost(7, 33) = 5 / cost(7, 34) = 4
+            cost(7, 41) = 4 / cost(7, 42) = 4 / cost(7, 43) = 4 / cost(7, 44) = 5 / cost(15, 111) = 9 / cost(19, 1111) = -13 / cost(0, 3333) = -13
+            """);
         Rows.test(12, "the greatest and the least row of 9 figures, of one figure, and beyond", """
             cost(0, 111111111) = -10 / cost(0, 444444444) = -10 / cost(11, 444444444) = -13 / cost(11, 111111111) = -12
             cost(0, 1) = -10 / cost(0, 4) = -10 / cost(0, 5) = BAD / cost(0, 9) = BAD / cost(0, 444444445) = BAD / cost(0, 999999999) = BAD

@@ -560,6 +560,10 @@ public final class BoundsOfTerms {
             errand(0, 2) = 3 / help(0) = NONE / help(1) = NONE / home() = 3 / help(0) = 0
             errand(2, 0) = 1 / help(0) = NONE / errand(0, 0) = 2 / help(1) = NONE
             """);
+        Rows.test(20, "NONE: several ERRANDS have no WAY; none of them counts any more behind home", """
+            'town 3 1;house 1 0;' = 2 / errand(0, 2) = 1 / errand(2, 0) = 2 / help(0) = NONE / help(1) = NONE / errand(0, 2) = 3 / help(1) = NONE
+            errand(0, 2) = 4 / help(1) = NONE / home() = 4 / help(0) = 0 / help(1) = 0 / errand(0, 0) = 1 / help(0) = 0
+            """);
         Rows.test(20, "NONE: no SQUARE without HOUSE or ELBOW, with and without ERRANDS", """
             'town 2 1;house 0 0;elbow 1 0;' = 3 / help(0) = NONE / help(1) = NONE / errand(1, 1) = 1 / help(0) = NONE / help(1) = NONE
             'town 2 1;elbow 0 0;elbow 1 0;' = 3 / help(0) = NONE / errand(0, 1) = 1 / help(1) = NONE
@@ -613,6 +617,13 @@ public final class BoundsOfTerms {
             'town 5 1;tax 0 9 2;double;haste 9;' = 4 / dusk(1) = 0 / line(0, 4, -1, 0) = 3
             line(0, 4, 0, 0) = 4 / line(0, 4, 0, 1) = 576 / line(0, 4, 1, 0) = 6 / line(0, 4, 1, 1) = 414
             line(0, 4, 2, 0) = 8 / line(0, 4, 2, 1) = 378 / line(0, 4, 3, 0) = -5 / line(0, 4, 3, 1) = -5
+            """);
+        Rows.test(14, "one STEP in each direction, to the first SQUARE and to the last", """
+            'town 2 2;haste 1;' = 2 / quickest(1, 0, 1) = 1 / quickest(2, 0, 1) = 1 / quickest(1, 3, 1) = 1 / quickest(2, 3, 1) = 1 / quickest(3, 0, 2) = 2
+            line(1, 0, 0, 0) = 1 / line(2, 0, 0, 0) = 1 / line(1, 3, 0, 1) = 1 / line(2, 3, 0, 1) = 1 / line(0, 3, 0, 0) = 2
+            cheapest(1, 0, 0) = 3 / cheapest(2, 0, 0) = 0 / cheapest(1, 3, 0) = 2 / cheapest(2, 3, 0) = 1
+            fits(1, 0, 1, 1) = 1 / fits(2, 0, 1, 1) = 1 / fits(1, 3, 1, 1) = 1 / fits(2, 3, 1, 1) = 1 / fits(0, 3, 1, 1) = 0
+            fewTurns(1, 0) = 0 / fewTurns(2, 0) = 0 / fewTurns(1, 3) = 0 / fewTurns(2, 3) = 0 / fewTurns(3, 0) = 1
             """);
         Rows.test(15, "as much for more STEPS is no corner", """
             'town 2 1;tax 4 1 0;' = 2 / line(0, 1, -1, 0) = 1 / line(0, 1, 0, 0) = 1 / line(0, 1, 0, 1) = 0 / line(0, 1, 1, 0) = -5
@@ -768,6 +779,12 @@ public final class BoundsOfTerms {
             undo() = 1 / undo() = 1 / step(2) = 1 / step(2) = 2 / step(1) = 1 / back(0) = 2 / one(0) = 5 / one(1) = 2
             undo() = 1 / step(1) = 2 / back(0) = 2 / undo() = 1 / one(0) = 1 / undo() = 1 / one(0) = 0
             """);
+        Rows.test(24, "its STEPS: where each began, its direction, its RUN and what it PAID for it", """
+            'town 5 4;tax 0 1 1;' = 2 / stand(0) = 1 / step(1) = 1 / step(1) = 2 / step(1) = 3 / keep(0) = 3
+            stand(19) = 1 / step(3) = 1 / step(0) = 1 / step(3) = 1 / keep(1) = 3 / back(0) = 3 / one(2) = 3 / one(3) = 1 / step(1) = 4
+            undo() = 4 / undo() = 3 / one(0) = 2 / one(2) = 2 / undo() = 2 / one(0) = 1 / undo() = 1 / one(0) = 0 / one(1) = 0
+            back(1) = 3 / one(2) = 1 / one(3) = 3 / undo() = 1 / one(0) = 13 / one(3) = 0 / undo() = 1 / one(0) = 18 / undo() = 1 / one(0) = 19
+            """);
         Rows.test(24, "IMAGES of 0 and of 60 STEPS", """
             'town 2 1;haste 1;' = 2 / stand(1) = 1 / keep(0) = 0
             30 x step(3) = 1 / step(1) = 1
@@ -786,6 +803,13 @@ public final class BoundsOfTerms {
         Rows.test(4, "Read anew by an empty text, too", """
             stand(0) = 1 / dusk(1) = 0 / errand(0, 1) = 1 / keep(0) = 0 / keep(1) = 0 / town() = 0
             one(0) = NONE / law(5) = 0 / count(4) = 0 / back(0) = STATE / back(1) = STATE
+            """);
+        Rows.test(4, "nothing is left of what was told ahead, once or twice, nor by a text with a FAULT", """
+            'town 5 4;tax 4 9 0;double;haste 9;house 0 0;elbow 1 0;' = 6
+            '' = 0 / law(0) = 1 / law(1) = 1 / law(2) = 2 / law(3) = 0 / law(4) = 0 / count(0) = 4 / count(1) = 3 / square(0) = 0 / square(1) = 0
+            '' = 0 / law(0) = 1 / law(1) = 1 / law(2) = 2 / law(3) = 0 / law(4) = 0 / count(0) = 4 / count(1) = 3 / square(0) = 0 / square(1) = 0
+            'town 2 1;tax 0 8 1;double;haste 8;elbow 0 0;house 1 0;!' = -64
+            '' = 0 / law(0) = 1 / law(1) = 1 / law(2) = 2 / law(3) = 0 / law(4) = 0 / count(0) = 4 / count(1) = 3 / square(0) = 0 / square(1) = 0
             """);
         Rows.test(4, "an IMAGE kept behind it is there again", """
             stand(0) = 1 / keep(0) = 0 / town() = 0 / back(0) = STATE / keep(0) = 0 / back(0) = 0 / one(0) = NONE / back(1) = STATE
