@@ -629,7 +629,7 @@ public final class BoundsOfTerms {
             'town 2 1;tax 4 1 0;' = 2 / line(0, 1, -1, 0) = 1 / line(0, 1, 0, 0) = 1 / line(0, 1, 0, 1) = 0 / line(0, 1, 1, 0) = -5
             'town 5 4;tax 4 1 0;haste 1;' = 3 / line(0, 19, -1, 0) = 1 / line(0, 19, 0, 0) = 7 / line(0, 19, 0, 1) = 7
             """);
-        // No town has a CHEAPEST WAY of nearly 60 STEPS; this one, of three long streets, has one of 21 and six corners.
+        // Three long streets: a CHEAPEST WAY of 21 STEPS and six corners. No town was found with one of more than 22.
         String streets = "'town 5 4;house 0 1;house 1 1;house 2 1;house 3 1;house 0 2;house 1 2;house 2 2;house 3 2;tax 2 9 2;' = 10\n";
         Rows.test(15, "many corners (0 .. 60)", streets + """
             line(0, 15, -1, 0) = 6 / line(0, 15, 0, 0) = 11 / line(0, 15, 0, 1) = 99 / line(0, 15, 1, 0) = 13 / line(0, 15, 1, 1) = 63
