@@ -428,7 +428,6 @@ public final class BoundsOfTerms {
     /** Each beginning of a text of all ITEMS: whole ITEMS, a word that is broken off, or a TOKEN that is missing. */
     private static void endsTooEarly() {
         String text = "town 5 4;house 0 0; elbow 1 0 ;tax 1 2 1; double ;haste 3;";
-        String rows = "";
         for (int length = 0; length <= text.length(); length++) {
             String begun = text.substring(0, length);
             int word = length;
@@ -444,9 +443,8 @@ public final class BoundsOfTerms {
             } else {
                 want = -10 - length;
             }
-            rows += "'" + begun + "' = " + want + "\n";
+            Rows.test(4, "the text's length, if it ends too early: the first " + length + " bytes", "'" + begun + "' = " + want);
         }
-        Rows.test(4, "the text's length, if it ends too early", rows);
         Rows.test(4, "the text's length, blanks behind the last TOKEN too", """
             'double ' = -17
             'double     ' = -21
