@@ -36,7 +36,7 @@ public final class StraightTax {
     private final boolean[] kept = new boolean[IMAGES];
     private final Errands errands = new Errands();
     private final Walker[] kinds = new Walker[KINDS];
-    private final Ways ways;
+    private final Ways ways = new Ways();
     private Town here = new Town();
     /** A text is read into this one, so that a fault leaves the town that stands as it was. */
     private Town spare = new Town();
@@ -52,7 +52,6 @@ public final class StraightTax {
         kinds[3] = new Dancer();
         kinds[4] = new Lawyer();
         kinds[5] = new Beggar();
-        ways = new Ways(here);
     }
 
     // ---- the town
@@ -804,7 +803,8 @@ public final class StraightTax {
         private static final int LAYERS = LONGEST_RUN + 1;
         private static final int STOPS = MOST_PLACES + 1;
 
-        private Town town;
+        /** One of its own at first, so that it is never null; each call looks at the town that stands. */
+        private Town town = new Town();
         private boolean night = false;
         private int goal = 0;
         /** What the first steps of a run cost together, in pence and as a burden. */
@@ -820,10 +820,6 @@ public final class StraightTax {
         private final int[] near = new int[MOST_FITTED + 1];
         private final int[] stops = new int[STOPS];
         private final int[] legs = new int[STOPS * STOPS];
-
-        Ways(Town first) {
-            town = first;
-        }
 
         void look(Town where, boolean isNight) {
             town = where;

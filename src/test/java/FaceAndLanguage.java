@@ -147,6 +147,20 @@ public final class FaceAndLanguage {
             }
         }
         longMethods(code);
+        constructors(code);
+    }
+
+    /** A constructor hands out nothing of the object that it makes: it calls others without arguments only. */
+    private static void constructors(String code) {
+        Matcher head = Pattern.compile("(?m)^( *)(?:public )?[A-Z]\\w*\\([^)]*\\) \\{$").matcher(code);
+        while (head.find()) {
+            int end = code.indexOf("\n" + head.group(1) + "}", head.end());
+            String inside = code.substring(head.end(), end).replaceAll("\\b(for|if|while|switch) \\(", "");
+            Matcher call = Pattern.compile("\\w+\\([^)]+\\)|\\bthis\\b").matcher(inside);
+            if (call.find()) {
+                fault("a constructor hands out what it may not:" + head.group() + " .. " + call.group());
+            }
+        }
     }
 
     /** A method begins at a line that ends in ") {" at a depth of one or two, and ends at the brace of its own depth. */
